@@ -9,6 +9,7 @@ final class AllTests {
     public static void main(String[] args) throws IOException {
         PromiseTest.run();
         ModelTest.run();
+        RunsTest.run();
         FuzzTest.run();
         LanguageTest.run(Path.of(args.length > 0 ? args[0] : "src/main/java/SidingOrders.java"));
         System.out.println(Check.passed + " passed, " + Check.failed + " failed");

@@ -22,6 +22,8 @@ final class PromiseTest {
         keepAndUnlike();
         play();
         moveAndBack();
+        twentyMoves();
+        yardsChange();
         restAndNext();
         movesAndStand();
         thumbs();
@@ -338,6 +340,7 @@ final class PromiseTest {
         SidingOrders x = Check.on("s1s1s1");
         due("16 against s5", x.unlike(3), 231);
         due("16 ALIKE", x.unlike(2), NONE);
+        due("16 ALIKE, one wagon", x.unlike(1), NONE);
         due("15 keep()", x.keep(), 3);
         due("15 told(4)", x.told(4), 3);
         due("16 against itself", x.unlike(5), NONE);
@@ -397,6 +400,55 @@ final class PromiseTest {
         due("19 back", x.back(), 0);
         due("19 ENTRY", x.stand(0), 213);
         due("19 no more", x.back(), NO);
+    }
+
+    /** Promises 10, 18 and 19: the longest rows. */
+    private static void twentyMoves() {
+        SidingOrders x = Check.on("s5;s5;s5");
+        due("8 twenty", x.least(12345, 54321), 20);
+        due("10 the last of twenty", x.first(12345, 54321, 19), 3050);
+        due("10 behind the last", x.first(12345, 54321, 20), NONE);
+        due("17 twenty", x.play(12345, 54321), 20);
+        for (int i = 0; i < 20; i++) {
+            due("20 rest() after " + i, x.rest(), 20 - i);
+            due("10 first(12345, 54321, " + i + ")", x.first(12345, 54321, i), x.next());
+            due("18 move, " + i, x.move(x.next()), i + 1);
+        }
+        due("18 nothing is left", x.move(3050), NO);
+        due("23 all out", x.stand(5), 54321);
+        x.image(0);
+        for (int i = 19; i >= 0; i--) {
+            due("19 back, " + i, x.back(), i);
+        }
+        due("23 ENTRY", x.stand(0), 12345);
+        x.restore(0);
+        due("19 back after restore()", x.back(), 19);
+        due("23 the last one", x.stand(3), 1);
+    }
+
+    /** Promises 5, 14, 20 and 21: what was found for one YARD does not answer for another. */
+    private static void yardsChange() {
+        SidingOrders x = new SidingOrders();
+        due("5 need before", x.need(321, 0), 3);
+        due("5 play before", x.play(123, 312), NONE);
+        due("5 rest before", x.rest(), NONE);
+        due("5 ways before", x.ways(123, 321), 1);
+        Check.lay(x, "q5-");
+        due("5 need after", x.need(321, 0), NO);
+        due("5 ways after", x.ways(123, 321), 0);
+        Check.lay(x, "s5s5");
+        due("5 need", x.need(321, 0), 1);
+        due("5 play after", x.play(123, 312), 6);
+        due("5 rest after", x.rest(), 6);
+        due("5 first after", x.first(123, 312, 0), 10);
+        x.image(0);
+        Check.lay(x, "s5");
+        due("28 need before", x.need(321, 0), 3);
+        x.play(123, 312);
+        due("28 rest before", x.rest(), NONE);
+        x.restore(0);
+        due("28 need after", x.need(321, 0), 1);
+        due("28 rest after", x.rest(), 6);
     }
 
     /** Promises 20 and 21. */
@@ -518,6 +570,7 @@ final class PromiseTest {
         due("26 draw(1, 3)", x.draw(1, 3), 321);
         due("26 draw(-1, 3)", x.draw(-1, 3), OUTSIDE);
         due("26 draw(10000, 3)", x.draw(10000, 3), OUTSIDE);
+        due("26 draw(9999, 1)", x.draw(9999, 1), 1);
         for (int seed = 0; seed <= 9999; seed += 37) {
             long state = seed;
             java.util.ArrayList<Integer> left = new java.util.ArrayList<>(java.util.List.of(1, 2, 3, 4, 5));
@@ -554,6 +607,7 @@ final class PromiseTest {
         due("28 MOVES done", x.told(3), 2);
         due("28 SIDINGS", x.told(1), 2);
         due("28 THE OTHER", x.told(4), 2);
+        due("28 letters", x.siding(0, 0) * 1000 + x.siding(1, 0), 'q' * 1000 + 's');
         due("28 ENTRY", x.stand(0), 2);
         due("28 SIDING 0", x.stand(1), 3);
         due("28 rest()", x.rest(), 4);
