@@ -8,6 +8,7 @@ final class AllTests {
 
     public static void main(String[] args) throws IOException {
         PromiseTest.run();
+        Edges.run();
         ModelTest.run();
         RunsTest.run();
         FuzzTest.run();

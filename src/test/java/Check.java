@@ -2,6 +2,8 @@
 final class Check {
     static int passed = 0;
     static int failed = 0;
+    /** The test that runs: it stands before what is printed. */
+    static String within = "";
 
     private Check() {
     }
@@ -12,7 +14,7 @@ final class Check {
         } else {
             failed++;
             if (failed <= 50) {
-                System.out.println(what + " answered " + got + ", due is " + want);
+                System.out.println(within + what + " answered " + got + ", due is " + want);
             }
         }
     }

@@ -40,6 +40,19 @@ final class LanguageTest {
         Check.due("LANGUAGE.md: at most twelve classes", count <= 12 ? 1 : 0, 1);
         Check.due("LANGUAGE.md: signs 1 to 127", code.chars().allMatch(one -> one > 0 && one < 128) ? 1 : 0, 1);
         methodsAreShort(code);
+        nothingIsMadeByCalls(code);
+    }
+
+    /** Rooms are small: what an object needs is made with it. */
+    private static void nothingIsMadeByCalls(String code) {
+        int line = 0;
+        for (String one : code.split("\n")) {
+            line++;
+            if (one.matches(".*\\bnew\\b.*")) {
+                boolean field = one.matches(" {4,8}(private )?final [\\w\\[\\]]+ \\w+ = new [^;]+;");
+                Check.due("LANGUAGE.md: made by no call, line " + line, field ? 1 : 0, 1);
+            }
+        }
     }
 
     private static void methodsAreShort(String code) {
