@@ -27,6 +27,18 @@ final class OrderEdges {
         }
     }
 
+    static void promise8OfOneObjectAgainAndAgain() {
+        SidingOrders x = new SidingOrders();
+        for (int i = 0; i < 3; i++) {
+            for (int n = 1; n <= 5; n++) {
+                due("least of " + n, x.least(LOWEST[n - 1], LOWEST[n - 1]), 2 * n);
+                due("ways of " + n, x.ways(HIGHEST[n - 1], LOWEST[n - 1]), 1);
+            }
+            due("least(123, 312)", x.least(123, 312), NONE);
+            due("least(1, 1)", x.least(1, 1), 2);
+        }
+    }
+
     static void promise8TheFewestThatCanBe() {
         SidingOrders x = Check.on("-s1");
         due("least(1, 1)", x.least(1, 1), 1);
@@ -175,6 +187,11 @@ final class OrderEdges {
         first("-q1", 21, 12, 10, 50, 1150);
     }
 
+    static void promise10ThroughAllFourSidings() {
+        // 3 waits in SIDING 2 and 2 in SIDING 3; 1 passes both by the -.
+        first("s1;s1;s1s1-", 321, 123, 10, 1020, 10, 2030, 1020, 10, 2040, 1020, 2050, 4050, 3050);
+    }
+
     static void promise10LeastBeforeFirst() {
         // 10 has the lesser number, but 50 makes the row shorter.
         first("-s1", 12, 12, 50, 50);
@@ -251,6 +268,11 @@ final class OrderEdges {
     static void promise11JustOne() {
         orders("q5", 54321, 54321);
         orders("s1", 25314, 25314);
+    }
+
+    static void promise11ThatComesOutByOneMove() {
+        orders("-s1", 1, 1);
+        orders("-;-;-s1", 1, 1);
     }
 
     static void promise11All() {

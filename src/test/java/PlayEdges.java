@@ -330,6 +330,12 @@ final class PlayEdges {
         due("rest() of twenty", Edges.playing("s5;s5;s5", 12345, 54321).rest(), 20);
     }
 
+    static void promise20TheFewestOfAll() {
+        // Each wagon may go on to SIDING 2 first; for 2 that has a higher number than for 1 to go out.
+        due("rest()", Edges.playing("s1s1;s1-", 12, 12, 10, 20).rest(), 2);
+        due("rest() with one on its way", Edges.playing("s1s1;s1-", 12, 12, 10, 20, 2030).rest(), 2);
+    }
+
     static void promise20ZeroItIsDone() {
         due("rest() of one wagon", Edges.playing("-s1", 1, 1, 50).rest(), 0);
         due("rest() of two wagons", Edges.playing("s5", 12, 21, 10, 10, 1050, 1050).rest(), 0);

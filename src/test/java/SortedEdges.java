@@ -47,6 +47,12 @@ final class SortedEdges {
         }
     }
 
+    static void promise12SortedByOneMove() {
+        SidingOrders x = Check.on("-s1");
+        due("good(1, 0) of -s1", x.good(1, 0), 1);
+        due("good(1, 1) of -s1", x.good(1, 1), NONE);
+    }
+
     static void promise12OutsideTheNumberOfWagons() {
         for (int n : Edges.NO_SIZES) {
             Edges.refusedAnywhere("good(" + n + ", 0)", x -> x.good(n, 0), OUTSIDE);
@@ -149,6 +155,35 @@ final class SortedEdges {
         need("s1;s1", 12, 2, 1, 1);
     }
 
+    static void promise14AsNarrowerYardsTell() {
+        narrower("s", ";s", "", 5, 5);
+        narrower("q", ";s", "", 5, 5);
+        narrower("d", ";s", "", 5, 4);
+        narrower("s", "s", "", 5, 5);
+        narrower("-q", "s", "", 3, 5);
+        narrower("s", ";-d", ";q1", 4, 5);
+    }
+
+    /** Each pair of LENGTHS as a YARD of its own; the sum counts before the LENGTH of SIDING 0. */
+    private static void narrower(String head, String middle, String tail, int most, int mostBehind) {
+        SidingOrders x = Check.on(head + most + middle + mostBehind + tail);
+        SidingOrders[] yards = new SidingOrders[100];
+        for (int size = 1; size <= most; size++) {
+            for (int behind = 1; behind <= mostBehind; behind++) {
+                yards[10 * (size + behind) - 10 + size] = Check.on(head + size + middle + behind + tail);
+            }
+        }
+        for (int train : Model.trains(5)) {
+            int found = 0;
+            while (found < 100 && (yards[found] == null || yards[found].least(train, 12345) == NONE)) {
+                found++;
+            }
+            String what = "need(" + train + ") of " + head + most + middle + mostBehind + tail;
+            due(what + ", SIDING 0", x.need(train, 0), found == 100 ? NO : found % 10);
+            due(what + ", SIDING 1", x.need(train, 1), found == 100 ? NO : found / 10 + 1 - found % 10);
+        }
+    }
+
     static void promise14UnknownSidings() {
         String[] yards = {"s3", "s3q1", "s3q1d1", "s3q1d1s1"};
         for (int count = 1; count <= 4; count++) {
@@ -201,6 +236,15 @@ final class SortedEdges {
         due("need(321, 1) again", x.need(321, 1), 2);
         due("next()", x.next(), 10);
         due("move(10)", x.move(10), 2);
+    }
+
+    static void promise14RestStaysAsItIs() {
+        // NEED is 1 and 2: 2 into SIDING 0, 4 and 3 into SIDING 1. The other way round 3 needs room above 4.
+        SidingOrders x = Edges.playing("-s5s5", 2431, 1234, 20, 10);
+        due("need(2431, 0)", x.need(2431, 0), 1);
+        due("need(2431, 1)", x.need(2431, 1), 2);
+        due("rest()", x.rest(), 5);
+        due("next()", x.next(), 10);
     }
 
     static void promise14ItOnlyAsks() {
@@ -306,6 +350,8 @@ final class SortedEdges {
         unlike("s2", "s5", 2, NONE);
         unlike("s4", "s5", 4, NONE);
         unlike("q5", "s5", 1, NONE);
+        unlike("-s1", "s5", 1, NONE);
+        unlike("s5", "-s1", 1, NONE);
     }
 
     static void promise16AlikeForOneNumberOfWagonsAlone() {
